@@ -421,7 +421,8 @@ public final class PuzzleBook {
         private int sumOf(int block) {
             int sum = SUM_START;
             for (int i = 0; i < SUMMED_BYTES; i++) {
-                sum = Integer.rotateLeft(sum ^ read(block, i), SUM_TURN) * SUM_FACTOR;
+                int mixed = sum ^ read(block, i);
+                sum = (mixed << SUM_TURN | mixed >>> 32 - SUM_TURN) * SUM_FACTOR;
             }
             return sum;
         }

@@ -129,6 +129,9 @@ public final class CrashTest {
             Books.set(book, 0, 0, turn);
             CHECK.due("reopen() of turn " + turn, book.reopen(), -1);
             CHECK.due("it is not open", book.free(), -1);
+            Books.reseal(book, 0);
+            CHECK.due("reopen() of turn " + turn + ", block 0 with a sum", book.reopen(), -1);
+            CHECK.due("it is not open then", book.root(), -1);
             Books.set(book, 0, 0, 1);
             CHECK.due("reopen() of the root before", book.reopen(), 0);
             CHECK.due("root()", book.root(), 1);
