@@ -1,5 +1,13 @@
+import java.util.Arrays;
+
 /** What the tests do with a book again and again, by its face alone. */
 final class Books {
+    /** Far outside what any call takes; times 64, or cut to its lower bytes, some would wrap to 0. */
+    static final int[] FAR = {Integer.MIN_VALUE, -(1 << 26), -65536, -256, 1 << 26, Integer.MAX_VALUE};
+
+    static final int THROWN = -2;
+    static final int MACHINE_THREW = -3;
+
     private Books() {}
 
     static void feed(PuzzleBook book, int... row) {
@@ -22,6 +30,77 @@ final class Books {
         return row;
     }
 
+    /** The values with those that are far from any that a call takes. */
+    static int[] andFar(int... values) {
+        int[] all = Arrays.copyOf(values, values.length + FAR.length);
+        System.arraycopy(FAR, 0, all, values.length, FAR.length);
+        return all;
+    }
+
+    /** Eight blocks, entries 0 to 2: names 300, 44, 300, rows of 3, 1 and 48 bytes, blocks 3 to 5; THE TURN 2. */
+    static PuzzleBook three() {
+        PuzzleBook book = new PuzzleBook(8);
+        enter(book, 300, 1, 2, 3);
+        enter(book, 44, 4);
+        enter(book, 300, row(5, 48));
+        return book;
+    }
+
+    /** Six blocks, entries in the blocks 4, 5 and 3, in this order; THE TURN 2. */
+    static PuzzleBook outOfOrder() {
+        PuzzleBook book = new PuzzleBook(6);
+        enter(book, 1, 11);
+        enter(book, 2, 12);
+        enter(book, 3, 13);
+        book.drop(0);
+        enter(book, 4, 14);
+        return book;
+    }
+
+    /** Five blocks, no free one: names 1 and 2, rows 11 and 12; THE TURN 1. */
+    static PuzzleBook full() {
+        PuzzleBook book = new PuzzleBook(5);
+        enter(book, 1, 11);
+        enter(book, 2, 12);
+        return book;
+    }
+
+    /** 64 blocks, the names 0 to 39, the rows 100 to 139 of one byte; THE TURN 1. */
+    static PuzzleBook forty() {
+        PuzzleBook book = new PuzzleBook(64);
+        for (int k = 0; k < 40; k++) {
+            enter(book, k, 100 + k);
+        }
+        return book;
+    }
+
+    /** Five blocks, not open since it was cut off; one entry, by the name 1; 7 and 8 are fed. */
+    static PuzzleBook cutOff() {
+        PuzzleBook book = full();
+        feed(book, 7, 8);
+        book.crash(128);
+        return book;
+    }
+
+    /** Five blocks, not open since reopen refused THE TURN 0; two entries; 7 and 8 are fed. */
+    static PuzzleBook refused() {
+        PuzzleBook book = full();
+        feed(book, 7, 8);
+        set(book, 0, 0, 0);
+        book.reopen();
+        return book;
+    }
+
+    static int byteOrThrown(PuzzleBook book, int block, int i) {
+        try {
+            return book.byteAt(block, i);
+        } catch (ArrayIndexOutOfBoundsException e) {
+            // The machine's own exception has a text of this form; the class must throw by itself.
+            boolean byMachine = e.getMessage() != null && e.getMessage().startsWith("Index ");
+            return byMachine || e.getClass() != ArrayIndexOutOfBoundsException.class ? MACHINE_THREW : THROWN;
+        }
+    }
+
     static int[] block(PuzzleBook book, int block) {
         int[] bytes = new int[64];
         for (int i = 0; i < 64; i++) {
@@ -30,6 +109,7 @@ final class Books {
         return bytes;
     }
 
+    /** Makes a byte of the store what it should be: a mask of 0 is refused, which is right then. */
     static void set(PuzzleBook book, int block, int i, int value) {
         book.poke(block, i, book.byteAt(block, i) ^ value);
     }
@@ -59,7 +139,7 @@ final class Books {
 
     /** The 64 bytes of a root or an entry's block that begins so. */
     static int[] sealed(int... start) {
-        int[] bytes = java.util.Arrays.copyOf(start, 64);
+        int[] bytes = Arrays.copyOf(start, 64);
         System.arraycopy(sum(bytes), 0, bytes, 60, 4);
         return bytes;
     }

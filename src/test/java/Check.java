@@ -1,6 +1,8 @@
-/** Counts the answers of one test and tells those that are not as due. */
+/** Looks at the answers of one test, sentence by sentence, and tells those that are not as due. */
 final class Check {
     private final String test;
+    private String sentence = "";
+    private int sentences = 0;
     private int made = 0;
     private int wrong = 0;
 
@@ -8,11 +10,16 @@ final class Check {
         this.test = test;
     }
 
+    /** What is looked at from now on belongs to this sentence of the document. */
+    void sentence(String words) {
+        sentences++;
+        sentence = " [" + words + "]";
+    }
+
     void due(String call, long got, long want) {
         made++;
         if (got != want) {
-            wrong++;
-            System.out.println(test + ": " + call + " answered " + got + ", due is " + want);
+            tell(call + " answered " + got + ", due is " + want);
         }
     }
 
@@ -21,24 +28,12 @@ final class Check {
     }
 
     void dueThrow(String call, PuzzleBook book, int block, int i) {
-        made++;
-        try {
-            int got = book.byteAt(block, i);
-            tell(call + " answered " + got + ", due is an exception");
-        } catch (ArrayIndexOutOfBoundsException e) {
-            if (e.getClass() != ArrayIndexOutOfBoundsException.class) {
-                tell(call + " threw " + e.getClass());
-            }
-            // The machine's own exception has a text of this form; the class must throw by itself.
-            if (e.getMessage() != null && e.getMessage().startsWith("Index ")) {
-                tell(call + " let the machine throw");
-            }
-        }
+        due(call + " (" + Books.THROWN + " is the exception)", Books.byteOrThrown(book, block, i), Books.THROWN);
     }
 
     void tell(String fault) {
         wrong++;
-        System.out.println(test + ": " + fault);
+        System.out.println(test + sentence + ": " + fault);
     }
 
     int wrong() {
@@ -46,7 +41,8 @@ final class Check {
     }
 
     void end() {
-        System.out.println(test + ": " + made + " answers looked at, " + wrong + " not as due");
+        String counted = sentences == 0 ? "" : sentences + " sentences, ";
+        System.out.println(test + ": " + counted + made + " answers looked at, " + wrong + " not as due");
         if (wrong != 0) {
             System.exit(1);
         }

@@ -15,7 +15,7 @@ final class ModelBook {
     ModelBook(int blocks) {
         store = new int[blocks < 4 ? 4 : blocks > 64 ? 64 : blocks][64];
         store[0][0] = 1;
-        store[1] = Books.sealed(0);
+        store[1] = Books.sealed();
     }
 
     boolean feed(int b) {
@@ -131,9 +131,8 @@ final class ModelBook {
         return -1;
     }
 
-    /** A place that is none is told by -2, which no byte is. */
     int byteAt(int block, int i) {
-        return has(block, i) ? store[block][i] : -2;
+        return has(block, i) ? store[block][i] : Books.THROWN;
     }
 
     int free() {

@@ -114,15 +114,7 @@ public final class ModelTest {
                 due(at + "root()", book.root(), model.root());
                 break;
             default:
-                due(at + "byteAt(" + a + ", " + i + ")", byteAt(a, i), model.byteAt(a, i));
-        }
-    }
-
-    private int byteAt(int block, int i) {
-        try {
-            return book.byteAt(block, i);
-        } catch (ArrayIndexOutOfBoundsException e) {
-            return e.getMessage() != null && e.getMessage().startsWith("Index ") ? -3 : -2;
+                due(at + "byteAt(" + a + ", " + i + ")", Books.byteOrThrown(book, a, i), model.byteAt(a, i));
         }
     }
 
